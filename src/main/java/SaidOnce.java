@@ -167,7 +167,7 @@ public final class SaidOnce {
     public int audience(int who, int thing, int wording, boolean right) throws IndexOutOfBoundsException {
         needPerson(who);
         needSaying(thing, wording);
-        return right ? now.rightHearers(who, thing, wording) : now.hearers(who, thing, wording);
+        return right ? now.takers(who, thing, wording, thing) : now.hearers(who, thing, wording);
     }
 
     public int say(int who, int thing, int wording) throws IndexOutOfBoundsException, IllegalStateException {
@@ -253,7 +253,12 @@ public final class SaidOnce {
     public int seats(int who, int thing, int wording, boolean many) throws IndexOutOfBoundsException {
         needPerson(who);
         needSaying(thing, wording);
-        return many ? search.mostHearers(who, thing, wording) : search.bestSwap(who, thing, wording);
+        int swap = search.bestSwap(who, thing, wording);
+        if (!many) {
+            return swap;
+        }
+        return swap == NONE ? Integer.bitCount(now.hearers(who, thing, wording))
+                : search.hearersIfSwapped(swap / 10, swap % 10, who, thing, wording);
     }
 
     public long what(int who) throws IndexOutOfBoundsException, IllegalArgumentException {
@@ -969,22 +974,8 @@ public final class SaidOnce {
                 law.addCode(Law.KNOWN);
                 return true;
             }
-            if (!readSum()) {
-                return false;
-            }
-            int order = tape.atSign('<') ? Law.LESS : tape.atSign('>') ? Law.MORE : NONE;
-            if (order == NONE) {
-                return false;
-            }
-            tape.next();
-            if (!readSum()) {
-                return false;
-            }
-            law.addCode(order);
-            return true;
-        }
-
-        private boolean readSum() {
+            int order = NONE;
+            boolean adds = false;
             for (int k = 0; k < MAX_TAPE; k++) {
                 int part = partHere();
                 if (part == Law.NO_PART) {
@@ -992,12 +983,21 @@ public final class SaidOnce {
                 }
                 tape.next();
                 law.addCode(part);
-                if (k > 0) {
+                if (adds) {
                     law.addCode(Law.ADD);
                 }
-                if (!tape.takeSign('+')) {
+                adds = tape.atSign('+');
+                if (!adds && order != NONE) {
+                    law.addCode(order);
                     return true;
                 }
+                if (!adds) {
+                    order = tape.atSign('<') ? Law.LESS : tape.atSign('>') ? Law.MORE : NONE;
+                }
+                if (!adds && order == NONE) {
+                    return false;
+                }
+                tape.next();
             }
             return false;
         }
@@ -1148,25 +1148,28 @@ public final class SaidOnce {
                     }
                 } else if (top > 1) {
                     top--;
-                    stack[top - 1] = joined(one, stack[top - 1], stack[top]);
+                    int a = stack[top - 1];
+                    int b = stack[top];
+                    switch (one) {
+                        case ADD:
+                            stack[top - 1] = a + b;
+                            break;
+                        case LESS:
+                            stack[top - 1] = a < b ? 1 : 0;
+                            break;
+                        case MORE:
+                            stack[top - 1] = a > b ? 1 : 0;
+                            break;
+                        case AND:
+                            stack[top - 1] = a & b;
+                            break;
+                        default:
+                            stack[top - 1] = a | b;
+                            break;
+                    }
                 }
             }
             return top == 0 || stack[0] != 0;
-        }
-
-        private static int joined(int joint, int a, int b) {
-            switch (joint) {
-                case ADD:
-                    return a + b;
-                case LESS:
-                    return a < b ? 1 : 0;
-                case MORE:
-                    return a > b ? 1 : 0;
-                case AND:
-                    return a & b;
-                default:
-                    return a | b;
-            }
         }
     }
 
@@ -1440,16 +1443,13 @@ public final class SaidOnce {
             return taken(who, thing, wording, whom, state.isKnown(whom, thing));
         }
 
+        /** Who takes the saying as that thing; of NONE, who does not hear it. */
         int takers(int who, int thing, int wording, int as) {
             int takers = 0;
             for (int p = 0; p < setup.people; p++) {
-                takers |= takenNow(who, thing, wording, p) == as ? 1 << p : 0;
+                takers |= taken(who, thing, wording, p, state.isKnown(p, thing)) == as ? 1 << p : 0;
             }
             return takers;
-        }
-
-        int rightHearers(int who, int thing, int wording) {
-            return takers(who, thing, wording, thing);
         }
 
         int hearers(int who, int thing, int wording) {
@@ -1462,7 +1462,7 @@ public final class SaidOnce {
             int learners = 0;
             long learnt = 0;
             for (int p = 0; p < setup.people && !stammered; p++) {
-                int as = takenNow(who, thing, wording, p);
+                int as = taken(who, thing, wording, p, state.isKnown(p, thing));
                 if (as != NONE && !state.isKnown(p, as)) {
                     learners |= 1 << p;
                     learnt |= (long) as << 4 * p;
@@ -1578,8 +1578,10 @@ public final class SaidOnce {
                 if (fewest != NONE && sayings >= fewest) {
                     continue;
                 }
-                for (int knowers = nextMarked(used, 0); knowers <= all; knowers = nextMarked(used, knowers + 1)) {
-                    if (spread(used, knowers)) {
+                for (int knowers = 0; knowers <= all; knowers++) {
+                    if (isBlank(used, knowers)) {
+                        knowers |= 63;
+                    } else if (isMarked(used, knowers) && spread(used, knowers)) {
                         fewest = sayings + 1;
                     }
                 }
@@ -1609,7 +1611,7 @@ public final class SaidOnce {
             first = school.knowers(thing) & all;
             for (int who = 0; who < school.setup.people; who++) {
                 for (int wording = 0; wording < school.setup.wordings[thing]; wording++) {
-                    right[who * MAX_WORDINGS + wording] = school.rightHearers(who, thing, wording);
+                    right[who * MAX_WORDINGS + wording] = school.takers(who, thing, wording, thing);
                 }
             }
             Arrays.fill(reached, 0);
@@ -1627,15 +1629,9 @@ public final class SaidOnce {
             return (reached[used * WORDS_OF_SETS + (knowers >> 6)] >>> (knowers & 63) & 1) != 0;
         }
 
-        /** The least marked set of knowers from that one on, or one beyond all; sixty-four unmarked are passed at once. */
-        private int nextMarked(int used, int from) {
-            for (int knowers = from; knowers <= all; knowers = (knowers | 63) + 1) {
-                long rest = reached[used * WORDS_OF_SETS + (knowers >> 6)] >>> (knowers & 63);
-                if (rest != 0) {
-                    return knowers + Long.numberOfTrailingZeros(rest);
-                }
-            }
-            return all + 1;
+        /** Whether none of the sixty-four sets is marked that stand in one long with that one: most are passed so. */
+        private boolean isBlank(int used, int knowers) {
+            return reached[used * WORDS_OF_SETS + (knowers >> 6)] == 0;
         }
 
         private void mark(int used, int knowers) {
@@ -1668,10 +1664,14 @@ public final class SaidOnce {
         private void keepOnlyWhatLeadsThere(int fewest) {
             for (int used = WORDING_SETS - 1; used >= 0; used--) {
                 int sayings = Integer.bitCount(used);
-                for (int knowers = nextMarked(used, 0); knowers <= all; knowers = nextMarked(used, knowers + 1)) {
-                    boolean leads = sayings == fewest ? knowers == all : sayings < fewest && leadsOn(used, knowers);
-                    if (!leads) {
-                        unmark(used, knowers);
+                for (int knowers = 0; knowers <= all; knowers++) {
+                    if (isBlank(used, knowers)) {
+                        knowers |= 63;
+                    } else if (isMarked(used, knowers)) {
+                        boolean leads = sayings == fewest ? knowers == all : sayings < fewest && leadsOn(used, knowers);
+                        if (!leads) {
+                            unmark(used, knowers);
+                        }
                     }
                 }
             }
@@ -1749,7 +1749,7 @@ public final class SaidOnce {
                 heardFrom[who] = 0;
                 for (int wording = 0; wording < school.setup.wordings[thing]; wording++) {
                     if ((wordings >> wording & 1) != 0) {
-                        heardFrom[who] |= school.rightHearers(who, thing, wording);
+                        heardFrom[who] |= school.takers(who, thing, wording, thing);
                     }
                 }
             }
@@ -1786,15 +1786,7 @@ public final class SaidOnce {
             return best;
         }
 
-        int mostHearers(int who, int thing, int wording) {
-            int swap = bestSwap(who, thing, wording);
-            if (swap == NONE) {
-                return Integer.bitCount(school.hearers(who, thing, wording));
-            }
-            return hearersIfSwapped(swap / 10, swap % 10, who, thing, wording);
-        }
-
-        private int hearersIfSwapped(int p, int q, int who, int thing, int wording) {
+        int hearersIfSwapped(int p, int q, int who, int thing, int wording) {
             school.state.swapSeats(p, q);
             int many = Integer.bitCount(school.hearers(who, thing, wording));
             school.state.swapSeats(p, q);
@@ -1821,7 +1813,7 @@ public final class SaidOnce {
             int most = 0;
             for (int wording = 0; wording < school.setup.wordings[thing]; wording++) {
                 if (school.isLeft(thing, wording)) {
-                    int taught = school.rightHearers(person, thing, wording) & ignorant;
+                    int taught = school.takers(person, thing, wording, thing) & ignorant;
                     most = Math.max(most, Integer.bitCount(taught));
                 }
             }
