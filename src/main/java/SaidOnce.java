@@ -1596,8 +1596,10 @@ public final class SaidOnce {
             }
             keepOnlyWhatLeadsThere(fewest);
             for (int who = 0; who < MAX_PEOPLE; who++) {
-                for (int wording = 0; wording < MAX_WORDINGS; wording++) {
-                    if (canSay(first, 0, who, wording) && isMarked(1 << wording, afterwards(first, who, wording))) {
+                int can = sayableBy(who, first, 0);
+                for (int wording = 0; wording < MAX_WORDINGS && can >> wording != 0; wording++) {
+                    boolean isLeft = (can >> wording & 1) != 0;
+                    if (isLeft && isMarked(1 << wording, afterwards(first, who, wording))) {
                         return 10 * who + wording;
                     }
                 }
@@ -1617,8 +1619,8 @@ public final class SaidOnce {
             Arrays.fill(reached, 0);
         }
 
-        private boolean canSay(int knowers, int used, int who, int wording) {
-            return (knowers >> who & 1) != 0 && ((left & ~used) >> wording & 1) != 0;
+        private int sayableBy(int who, int knowers, int used) {
+            return (knowers >> who & 1) != 0 ? left & ~used : 0;
         }
 
         private int afterwards(int knowers, int who, int wording) {
@@ -1646,14 +1648,13 @@ public final class SaidOnce {
         private boolean spread(int used, int knowers) {
             boolean done = false;
             for (int who = 0; who < MAX_PEOPLE; who++) {
-                for (int wording = 0; wording < MAX_WORDINGS; wording++) {
-                    if (canSay(knowers, used, who, wording)) {
-                        int after = afterwards(knowers, who, wording);
-                        // A saying by which nobody learns is in none of the shortest plans.
-                        if (after != knowers) {
-                            mark(used | 1 << wording, after);
-                            done |= after == all;
-                        }
+                int can = sayableBy(who, knowers, used);
+                for (int wording = 0; wording < MAX_WORDINGS && can >> wording != 0; wording++) {
+                    int after = afterwards(knowers, who, wording);
+                    // A saying by which nobody learns is in none of the shortest plans.
+                    if ((can >> wording & 1) != 0 && after != knowers) {
+                        mark(used | 1 << wording, after);
+                        done |= after == all;
                     }
                 }
             }
@@ -1679,9 +1680,10 @@ public final class SaidOnce {
 
         private boolean leadsOn(int used, int knowers) {
             for (int who = 0; who < MAX_PEOPLE; who++) {
-                for (int wording = 0; wording < MAX_WORDINGS; wording++) {
-                    if (canSay(knowers, used, who, wording)
-                            && isMarked(used | 1 << wording, afterwards(knowers, who, wording))) {
+                int can = sayableBy(who, knowers, used);
+                for (int wording = 0; wording < MAX_WORDINGS && can >> wording != 0; wording++) {
+                    boolean isLeft = (can >> wording & 1) != 0;
+                    if (isLeft && isMarked(used | 1 << wording, afterwards(knowers, who, wording))) {
                         return true;
                     }
                 }
