@@ -78,9 +78,11 @@ public final class FaceTest {
             boolean isNone = one.getName().equals("NONE");
             check.due(one.getName() + " is hidden", isNone || Modifier.isPrivate(one.getModifiers()), true);
         }
+        check.due("twelve classes at most", SaidOnce.class.getDeclaredClasses().length < 12, true);
         for (Class<?> one : SaidOnce.class.getDeclaredClasses()) {
             check.due(one.getName() + " is static", Modifier.isStatic(one.getModifiers()), true);
             for (Method method : one.getDeclaredMethods()) {
+                check.due(method + " has a name of its own", publicNames.contains(method.getName()), false);
                 check.due(method + " takes seven at most", method.getParameterCount() <= 7, true);
             }
             int fields = 0;

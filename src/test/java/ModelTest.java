@@ -6,7 +6,7 @@ import java.util.concurrent.Callable;
 /** Random runs of calls on SaidOnce and on the dull model of the document: all answers must be the same. */
 public final class ModelTest {
     private static final int RUNS = 400;
-    private static final int CALLS = 500;
+    private static final int CALLS = 450;
 
     private final Random random;
     private final int run;
